@@ -184,6 +184,10 @@ public final class Promises {
         faultOfLaw("turn", 4, 0);
         faultOfLaw("turns 1", 0, 0);
         faultOfLaw("turn x", 5, 0);
+        faultOfLaw("turn z", 5, 0);
+        faultOfLaw("turn 1z", 6, 0);
+        faultOfLaw("turn offz + 1", 5, 0);
+        faultOfLaw("turn owners", 5, 0);
         faultOfLaw("turn -1", 5, 0);
         faultOfLaw("turn [1]", 5, 0);
         faultOfLaw("turn 1;", 7, 0);
@@ -315,6 +319,9 @@ public final class Promises {
         turns("turn 2 if 2 <= 2;turn 1", 1, 2);
         turns("turn 2 if 2 < 2;turn 1", 1, 1);
         turns("turn 2 if not 2 < 2;turn 1", 1, 2);
+        turns("turn 1 if not 1 = 2;turn 2", 1, 1);
+        turns("turn 2 if 2 > 2;turn 1", 1, 1);
+        turns("turn 2 if 3 > 2;turn 1", 1, 2);
         turns("turn 2 if 1=1 or 1=1 and 1=2;turn 1", 1, 2);
         turns("turn 2 if [1=1 or 1=1] and 1=2;turn 1", 1, 1);
         turns("turn 2 if not 1=2 and 1=2;turn 1", 1, 1);
@@ -384,6 +391,7 @@ public final class Promises {
         due("weighed, alike, the oldest", saying(row(3, 3, 0), 0, 0, 1).vote(1), 0);
         due("weighed", saying(row(3, 3, 0), 0, 1, 1).vote(1), 3);
         due("most, alike, of one age", saying(row(6, 2, 2, 6), 5, 5, 5, 5).vote(0), 6);
+        due("most, alike, of one age", saying(row(6, 2), 5, 5).vote(0), 6);
         due("most, alike, not the oldest of all", saying(row(1, 2, 2, 6, 6), 99, 5, 5, 5, 6).vote(0), 6);
         due("middle of four", saying(row(7, 0, 3, 5)).vote(2), 3);
         due("middle of three", saying(row(7, 0, 3)).vote(2), 3);
@@ -393,6 +401,9 @@ public final class Promises {
         due("struck out, to the right", saying(row(4, 2, 2, 6, 6)).vote(3), 6);
         due("struck out, rounds", saying(row(0, 1, 2, 3)).vote(3), 2);
         due("struck out, round the north", saying(row(7, 1, 1, 5, 5)).vote(3), 1);
+        due("struck out, half is not enough", saying(row(6, 6, 1, 2)).vote(3), 1);
+        due("struck out, half round", saying(row(1, 1, 5, 5)).vote(3), 1);
+        due("struck out, north itself", saying(row(0, 3, 3, 5, 5)).vote(3), 3);
         promise = 17;
         due("says 2", five().says(2), 2);
         due("says 0", five().says(0), 0);
@@ -426,8 +437,10 @@ public final class Promises {
         due("what -1", x.cheapest(0, 2, 0, -1), -1);
         due("no valley", new MostCocks().cheapest(0, 0, 0, 0), -1);
         due("nothing changed", x.vote(0), 4);
-        // 1 and 2 to the right cost 2 by one COCK or by two: the fewest, then the least
-        due("fewest", saying(row(0, 0, 0, 7), 0, 0, 0, 9).cheapest(0, 7, 0, 1), 1);
+        due("of several the least", saying(row(0, 0, 0, 7), 0, 0, 0, 9).cheapest(0, 7, 0, 1), 1);
+        // COCKS 0 and 1 together, or 3 alone, cost 2
+        due("of several the fewest", saying(row(1, 7, 4, 2), 4, 4, 7, 8).cheapest(1, 0, 0, 1), 8);
+        due("of several the fewest", saying(row(1, 7, 4, 2), 4, 4, 7, 8).cheapest(1, 0, 8, 1), 3);
         promise = 19;
         due("cost", x.answer(0, 2, 0, 4, 0, 0), 2);
         due("set", x.answer(0, 2, 0, 4, 0, 1), 1);
@@ -571,6 +584,10 @@ public final class Promises {
         due("as it is", x.bestPoint(0, 0, 3, 0), 4);
         due("as it is", x.bestPoint(0, 0, 3, 1), 1);
         due("as it is", x.bestPoint(0, 1, 9999, 1), 50);
+        due("no coins", x.bestPoint(0, 0, 0, 1), 1);
+        MostCocks even = new MostCocks();
+        valley(even, "cock 0 0 0 0 0 4;worth 0 3 8;worth 0 5 8;worth 0 4 7");
+        due("of several the least", even.bestPoint(0, 0, 99, 0), 3);
         due("owner without worth", x.bestPoint(0, 3, 9999, 0), 4);
         due("owner without worth", x.bestPoint(0, 3, 9999, 1), 0);
         due("coins 10000", x.bestPoint(0, 0, 10000, 0), -1);
@@ -591,6 +608,8 @@ public final class Promises {
         due("x", x.count(4), 1);
         due("seed", x.seed(2147483647), 1);
         due("seed", x.seed(1), 2147483647);
+        due("seed", x.seed(0), 1);
+        due("seed", x.seed(1), 0);
         promise = 29;
         // the DRAWS from 1 on: 16838, 5758, 10113, 17515, 31051; of 5 COCKS the 3, 3, 3, 0, 1
         int[] said = {4, 4, 4, 2, 2};
@@ -619,6 +638,7 @@ public final class Promises {
         due("no days", x.years(1, 0, 1, 0, 0, 0), -1);
         due("367 days", x.years(1, 367, 1, 0, 0, 0), -1);
         due("366 days", x.years(1, 366, 24, 0, 0, 1), 366);
+        due("one day", x.years(1, 1, 1, 0, 0, 0), 1);
         due("no hours", x.years(1, 8, 0, 0, 0, 0), -1);
         due("25 hours", x.years(1, 8, 25, 0, 0, 0), -1);
         due("way 4", x.years(1, 8, 1, 4, 0, 0), -1);
@@ -687,6 +707,41 @@ public final class Promises {
         due("no vote", y.vote(0), -1);
     }
 
+    /** Twelve COCKS and twelve TREES, as many as there may be, and laws as deep as they may be. */
+    private static void fullHouse() {
+        promise = 0;
+        MostCocks x = new MostCocks();
+        due("valley", valley(x, "cock0 5 9 1 3 4;".repeat(12) + "tree0 4;".repeat(11) + "tree0 4"), 12);
+        due("law", law(x, "turn 1 if " + "[1=2 or ".repeat(10) + "1+2*3=7" + "]".repeat(10)), 0);
+        due("law", law(x, "turn off if rust=0 or lee=11"), 1);
+        due("lee", x.lee(11, 0), 12);
+        due("blow", x.blow(0, 0, 1), 12);
+        due("says", x.says(5), 12);
+        due("morning", x.morning(), 12);
+        due("age", x.count(6), 12);
+        for (int way = 0; way < 4; way++) {
+            due("vote", x.vote(way), 5);
+            due("after", x.after(0, 1, 4, way, 0), 1);
+            due("bought", x.bought(way, 12), 255);
+            due("bought", x.bought(way, 4), 32);
+            due("felled", x.felled(1, 0, 1, way), 0);
+        }
+        due("cost", x.cheapest(0, 6, 0, 0), 60);
+        due("set", x.cheapest(0, 6, 0, 1), 63);
+        due("half, the least number", x.cheapest(0, 6, 4032, 0), 60);
+        due("half, the others", x.cheapest(0, 6, 63, 0), -2);
+        due("answer", x.answer(0, 6, 0, 5, 0, 1), 1);
+        due("swings", x.swings(0, 11, 2, 3), 420);
+        due("explained", x.explained(0, 0, 11), 255);
+        due("not explained", x.trueWind(0, 1, 2), 0);
+        due("oiled", x.oiled(1, 0, 1, 2, 0), 54);
+        due("oiled", x.oiled(1, 0, 1, 3, 1), 63);
+        due("best point", x.bestPoint(0, 3, 9999, 0), 5);
+        due("years", x.years(1, 366, 24, 1, 5, 0), 366);
+        due("fell", x.fell(11, true), true);
+        due("lee is 11", x.after(1, 0, 1, 0, 1), 0);
+    }
+
     public static void main(String[] args) {
         newObject();
         feedAndEnd();
@@ -701,6 +756,7 @@ public final class Promises {
         treesAndOil();
         draws();
         countsAndImages();
+        fullHouse();
         System.out.println(wrong == 0 ? "Promises: all answers are as due" : "Promises: " + wrong + " answers are not as due");
         if (wrong != 0) System.exit(1);
     }
