@@ -205,7 +205,7 @@ public final class MostCocks {
     }
 
     public int cheapest(int way, int point, int forbidden, int what) {
-        if (!canBuy(way, point) || !isBelow(what, 2)) {
+        if (!canBuy(way, point) || !now.hasAllOf(forbidden) || !isBelow(what, 2)) {
             return NONE;
         }
         search.startFrom(now);
@@ -216,6 +216,9 @@ public final class MostCocks {
 
     public int answer(int way, int point, int forbidden, int other, int otherForbidden, int what) {
         if (!canBuy(way, point) || !isBelow(other, POINTS) || !isBelow(what, 2)) {
+            return NONE;
+        }
+        if (!now.hasAllOf(forbidden) || !now.hasAllOf(otherForbidden)) {
             return NONE;
         }
         search.startFrom(now);
@@ -709,6 +712,11 @@ public final class MostCocks {
 
         boolean hasCock(int cock) {
             return cock >= 0 && cock < cocks && cock < COCKS;
+        }
+
+        /** Whether each bit of the set is a COCK's. */
+        boolean hasAllOf(int set) {
+            return isBelow(set, 1 << cocks);
         }
 
         boolean hasTree(int tree) {

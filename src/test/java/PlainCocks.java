@@ -500,14 +500,21 @@ final class PlainCocks {
         return order < 0 || order == 0 && set < best[1] ? now : best;
     }
 
+    /** Whether the set has one that is no COCK. */
+    boolean strange(int set) {
+        for (int bit = 0; bit < 32; bit++) if ((set >> bit & 1) != 0 && bit >= s.cocks.size()) return true;
+        return false;
+    }
+
     int cheapest(int way, int point, int forbidden, int what) {
-        if (empty() || !in(way, 0, 3) || !in(point, 0, 7) || !in(what, 0, 1)) return -1;
+        if (empty() || !in(way, 0, 3) || !in(point, 0, 7) || !in(what, 0, 1) || strange(forbidden)) return -1;
         int[] best = cheapest(s, way, point, forbidden);
         return best == null ? -2 : best[what];
     }
 
     int answer(int way, int point, int forbidden, int other, int otherForbidden, int what) {
         if (empty() || !in(way, 0, 3) || !in(point, 0, 7) || !in(other, 0, 7) || !in(what, 0, 1)) return -1;
+        if (strange(forbidden) || strange(otherForbidden)) return -1;
         int[] best = cheapest(s, way, point, forbidden);
         if (best == null) return -2;
         State t = s.copy();

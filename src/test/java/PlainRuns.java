@@ -169,8 +169,10 @@ public final class PlainRuns {
         }
     }
 
-    private static int set() {
-        return below(3) == 0 ? 0 : below(20) == 0 ? random.nextInt() : below(4096) & below(4096);
+    /** Mostly of so many COCKS, now and then with one too many, or with any bits. */
+    private static int set(int cocks) {
+        int all = 1 << (below(10) == 0 ? cocks + 1 : cocks);
+        return below(3) == 0 ? 0 : below(20) == 0 ? random.nextInt() : below(all) & below(all);
     }
 
     private static void ask(int cocks) {
@@ -185,13 +187,13 @@ public final class PlainRuns {
             case 0: due("vote " + way, x.vote(way), plain.vote(way)); break;
             case 1: due("says " + p, x.says(p), plain.says(p)); break;
             case 2: {
-                int f = set();
+                int f = set(cocks);
                 due("cheapest " + way + " " + p + " " + f + " " + what, x.cheapest(way, p, f, what), plain.cheapest(way, p, f, what));
                 break;
             }
             case 3: {
-                int f = set();
-                int g = set();
+                int f = set(cocks);
+                int g = set(cocks);
                 due("answer " + way + " " + p + " " + f + " " + q + " " + g + " " + what,
                         x.answer(way, p, f, q, g, what), plain.answer(way, p, f, q, g, what));
                 break;
