@@ -740,6 +740,9 @@ public final class Promises {
         due("set", x.cheapest(0, 6, 0, 1), 63);
         due("half, the least number", x.cheapest(0, 6, 4032, 0), 60);
         due("half, the others", x.cheapest(0, 6, 63, 0), -2);
+        due("all twelve forbidden", x.cheapest(0, 6, 4095, 0), -2);
+        due("a thirteenth forbidden", x.cheapest(0, 6, 4096, 0), -1);
+        due("a thirteenth forbidden to the other", x.answer(0, 6, 0, 5, 4096, 0), -1);
         due("answer", x.answer(0, 6, 0, 5, 0, 1), 1);
         due("swings", x.swings(0, 11, 2, 3), 420);
         due("explained", x.explained(0, 0, 11), 255);
