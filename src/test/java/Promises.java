@@ -1,67 +1,5 @@
 /** Each promise of the document by cases worked out by hand: ordinary ones, edges, wrong inputs. */
-public final class Promises {
-    private static int wrong = 0;
-    private static int promise = 0;
-
-    private static final String FIVE = "cock 5 5 0 10 0 2;cock 2 2 3 50 1 2;cock 7 7 1 30 0 4;cock 0 0 9 90 2 4;"
-            + "cock 9 9 2 20 3 6;tree 5 4;tree 5 3;tree 8 6;worth 0 2 9;worth 1 4 50;worth 0 4 1;worth 0 6 20";
-    private static final String SLOW = "turn 1 if rust < 5 and lee = 0;turn 4 if rust = 9";
-
-    private static void due(String call, int got, int want) {
-        if (got != want) {
-            wrong++;
-            System.out.println("promise " + promise + ": " + call + " answered " + got + ", due is " + want);
-        }
-    }
-
-    private static void due(String call, boolean got, boolean want) {
-        due(call, got ? 1 : 0, want ? 1 : 0);
-    }
-
-    private static void tell(MostCocks x, String text) {
-        for (int fed = 0; fed < text.length(); fed += 20) {
-            int[] n = new int[5];
-            for (int i = 0; i < 20; i++) {
-                n[i / 4] = n[i / 4] << 8 | (fed + i < text.length() ? text.charAt(fed + i) : 0);
-            }
-            x.feed(n[0], n[1], n[2], n[3], n[4]);
-        }
-        due("end of '" + text + "'", x.end(text.length()), text.length());
-    }
-
-    private static int valley(MostCocks x, String text) {
-        tell(x, text);
-        return x.valley();
-    }
-
-    private static int law(MostCocks x, String text) {
-        tell(x, text);
-        return x.law();
-    }
-
-    private static MostCocks five() {
-        MostCocks x = new MostCocks();
-        due("valley", valley(x, FIVE), 5);
-        due("law 0", law(x, SLOW), 0);
-        due("law 1", law(x, "turn off"), 1);
-        return x;
-    }
-
-    /** COCKS without RUST that say these; their AGES; OWNER 0. */
-    private static MostCocks saying(int[] points, int... ages) {
-        StringBuilder text = new StringBuilder();
-        for (int i = 0; i < points.length; i++) {
-            text.append(i == 0 ? "" : ";").append("cock 0 0 0 ").append(i < ages.length ? ages[i] : 0).append(" 0 ").append(points[i]);
-        }
-        MostCocks x = new MostCocks();
-        due("valley", valley(x, text.toString()), points.length);
-        return x;
-    }
-
-    private static int[] row(int... points) {
-        return points;
-    }
-
+public final class Promises extends Bench {
     private static void faultOfValley(String text, int place, int what) {
         MostCocks x = five();
         x.bend(0, 7);
@@ -80,17 +18,8 @@ public final class Promises {
         due("bytes behind a fault", x.count(5), 0);
     }
 
-    /** A COCK (number 1) at 0 with RUST 2, AGE 42, OWNER 2 and one TREE ahead of it, n HOURS in WIND 3. */
-    private static void turns(String text, int hours, int to) {
-        MostCocks x = new MostCocks();
-        due("valley", valley(x, "cock 0 9 0 0 0 3;cock 4 4 2 42 2 0;tree 6 6"), 2);
-        due("law '" + text + "'", law(x, text), 0);
-        x.blow(0, 3, hours);
-        due("POINT by '" + text + "'", x.cock(1, 5), to);
-    }
-
     private static void newObject() {
-        promise = 1;
+        promise(1);
         MostCocks x = new MostCocks();
         due("NONE", MostCocks.NONE, -1);
         for (int what = 0; what < 7; what++) due("count " + what, x.count(what), 0);
@@ -102,7 +31,7 @@ public final class Promises {
     }
 
     private static void feedAndEnd() {
-        promise = 2;
+        promise(2);
         MostCocks x = new MostCocks();
         for (int i = 1; i <= 20; i++) due("feed", x.feed(0, 0, 0, 0, 0), 20 * i);
         due("feed beyond 400", x.feed(0, 0, 0, 0, 0), -1);
@@ -120,7 +49,7 @@ public final class Promises {
         due("valley", x.valley(), 1);
         int[] told = {1, 2, 3, 4, 1, 6, 6};
         for (int what = 0; what < 7; what++) due("cock 0 " + what, x.cock(0, what), told[what]);
-        promise = 3;
+        promise(3);
         x.feed(1, 2, 3, 4, 5);
         due("end -1", x.end(-1), -1);
         due("end 21", x.end(21), -1);
@@ -133,7 +62,7 @@ public final class Promises {
     }
 
     private static void valleys() {
-        promise = 4;
+        promise(4);
         MostCocks x = five();
         due("bytes", x.count(5), 0);
         x.seed(77);
@@ -179,7 +108,7 @@ public final class Promises {
     }
 
     private static void laws() {
-        promise = 5;
+        promise(5);
         faultOfLaw("", 0, 0);
         faultOfLaw("turn", 4, 0);
         faultOfLaw("turns 1", 0, 0);
@@ -230,7 +159,7 @@ public final class Promises {
     }
 
     private static void whatIsThere() {
-        promise = 6;
+        promise(6);
         MostCocks x = five();
         int[] third = {0, 0, 9, 90, 2, 4, 4};
         for (int what = 0; what < 7; what++) due("cock 3 " + what, x.cock(3, what), third[what]);
@@ -241,7 +170,7 @@ public final class Promises {
         due("cock -1", x.cock(-1, 0), -1);
         due("what 7", x.cock(0, 7), -1);
         due("what -1", x.cock(0, -1), -1);
-        promise = 7;
+        promise(7);
         due("tree", x.tree(2, 0), 8);
         due("tree", x.tree(2, 1), 6);
         due("tree", x.tree(2, 2), 0);
@@ -251,7 +180,7 @@ public final class Promises {
         due("tree -1", x.tree(-1, 0), -1);
         due("what 3", x.tree(0, 3), -1);
         due("what -1", x.tree(0, -1), -1);
-        promise = 8;
+        promise(8);
         due("worth", x.worth(1, 4), 50);
         due("worth", x.worth(3, 0), 0);
         due("owner 4", x.worth(4, 0), -1);
@@ -259,7 +188,7 @@ public final class Promises {
         due("point 8", x.worth(0, 8), -1);
         due("point -1", x.worth(0, -1), -1);
         due("no valley", new MostCocks().worth(0, 0), -1);
-        promise = 9;
+        promise(9);
         due("two trees", x.lee(0, 0), 2);
         due("none", x.lee(0, 2), 0);
         due("a felled one", x.lee(2, 1), 0);
@@ -276,7 +205,7 @@ public final class Promises {
     }
 
     private static void hours() {
-        promise = 10;
+        promise(10);
         MostCocks x = five();
         due("blow", x.blow(0, 0, 1), 4);
         int[] then = {2, 1, 5, 0, 7};
@@ -294,7 +223,7 @@ public final class Promises {
         due("no valley", empty.blow(0, 0, 1), -1);
         turns("turn rust", 1, 2);
         turns("turn age - 40", 1, 2);
-        turns("turn owner", 1, 2);
+        turns("turn owner", 1, 3);
         turns("turn cock", 1, 1);
         turns("turn lee", 1, 1);
         turns("turn lee", 2, 2);
@@ -334,7 +263,7 @@ public final class Promises {
     }
 
     private static void hands() {
-        promise = 11;
+        promise(11);
         MostCocks x = five();
         due("bend", x.bend(2, 7), 6);
         due("says", x.cock(2, 5), 7);
@@ -346,13 +275,13 @@ public final class Promises {
         due("point 8", x.bend(0, 8), -1);
         due("point -1", x.bend(0, -1), -1);
         due("nothing happened", x.cock(0, 5), 2);
-        promise = 12;
+        promise(12);
         due("oil", x.oil(3), 9);
         due("rust", x.cock(3, 2), 0);
         due("oil again", x.oil(3), 0);
         due("cock 5", x.oil(5), -1);
         due("cock -1", x.oil(-1), -1);
-        promise = 13;
+        promise(13);
         due("rusts", x.rusts(1, 9), 3);
         due("rust", x.cock(1, 2), 9);
         due("10", x.rusts(1, 10), -1);
@@ -360,7 +289,7 @@ public final class Promises {
         due("rusts", x.rusts(1, 0), 9);
         due("cock 5", x.rusts(5, 0), -1);
         due("cock -1", x.rusts(-1, 0), -1);
-        promise = 14;
+        promise(14);
         due("stands", x.fell(1, false), false);
         due("fell", x.fell(1, true), true);
         due("is felled", x.fell(1, true), false);
@@ -369,7 +298,7 @@ public final class Promises {
         due("tree 3", x.fell(3, true), false);
         due("tree -1", x.fell(-1, true), false);
         due("felled", x.count(3), 0);
-        promise = 15;
+        promise(15);
         x = five();
         x.bend(0, 3);
         x.bend(1, 3);
@@ -381,7 +310,7 @@ public final class Promises {
     }
 
     private static void votes() {
-        promise = 16;
+        promise(16);
         for (int way = 0; way < 4; way++) due("vote " + way, five().vote(way), 4);
         due("way 4", five().vote(4), -1);
         due("way -1", five().vote(-1), -1);
@@ -404,7 +333,7 @@ public final class Promises {
         due("struck out, half is not enough", saying(row(6, 6, 1, 2)).vote(3), 1);
         due("struck out, half round", saying(row(1, 1, 5, 5)).vote(3), 1);
         due("struck out, north itself", saying(row(0, 3, 3, 5, 5)).vote(3), 3);
-        promise = 17;
+        promise(17);
         due("says 2", five().says(2), 2);
         due("says 0", five().says(0), 0);
         due("point 8", five().says(8), -1);
@@ -413,7 +342,7 @@ public final class Promises {
     }
 
     private static void buying() {
-        promise = 18;
+        promise(18);
         MostCocks x = five();
         due("cost", x.cheapest(0, 2, 0, 0), 4);
         due("set", x.cheapest(0, 2, 0, 1), 4);
@@ -446,7 +375,7 @@ public final class Promises {
         // COCKS 0 and 1 together, or 3 alone, cost 2
         due("of several the fewest", saying(row(1, 7, 4, 2), 4, 4, 7, 8).cheapest(1, 0, 0, 1), 8);
         due("of several the fewest", saying(row(1, 7, 4, 2), 4, 4, 7, 8).cheapest(1, 0, 8, 1), 3);
-        promise = 19;
+        promise(19);
         due("cost", x.answer(0, 2, 0, 4, 0, 0), 2);
         due("set", x.answer(0, 2, 0, 4, 0, 1), 1);
         due("set, another one forbidden", x.answer(0, 2, 0, 4, 1, 1), 4);
@@ -467,7 +396,7 @@ public final class Promises {
         due("what -1", x.answer(0, 2, 0, 4, 0, -1), -1);
         due("no valley", new MostCocks().answer(0, 0, 0, 0, 0, 0), -1);
         due("nothing changed", x.cock(2, 5), 4);
-        promise = 20;
+        promise(20);
         due("by none", x.bought(0, 0), 16);
         due("by one", x.bought(0, 1), 84);
         due("by all", x.bought(0, 12), 255);
@@ -476,7 +405,7 @@ public final class Promises {
         due("way 4", x.bought(4, 1), -1);
         due("way -1", x.bought(-1, 1), -1);
         due("no valley", new MostCocks().bought(0, 1), -1);
-        promise = 21;
+        promise(21);
         due("most", x.swings(0, 0, 2, 5), 6);
         due("weighed", x.swings(1, 3, 2, 5), 12);
         due("alike", x.swings(0, 0, 2, 2), -1);
@@ -495,7 +424,7 @@ public final class Promises {
     }
 
     private static void winds() {
-        promise = 22;
+        promise(22);
         MostCocks x = five();
         due("by no hour, as it was", x.explained(0, 0, 0), 255);
         due("by a law", x.explained(0, 1, 1), 1 << 2);
@@ -508,7 +437,7 @@ public final class Promises {
         due("-1 hours", x.explained(0, -1, 1), -1);
         due("cock 5", x.explained(0, 1, 5), -1);
         due("cock -1", x.explained(0, 1, -1), -1);
-        promise = 23;
+        promise(23);
         x = five();
         x.blow(1, 3, 1);
         due("wind", x.trueWind(1, 1, 0), 3);
@@ -527,7 +456,7 @@ public final class Promises {
         due("what 3", x.trueWind(1, 1, 3), -1);
         due("what -1", x.trueWind(1, 1, -1), -1);
         due("nothing changed", x.cock(0, 6), 2);
-        promise = 24;
+        promise(24);
         x = five();
         due("vote in no hour", x.after(1, 7, 0, 0, 0), 4);
         due("wrong in no hour", x.after(1, 7, 0, 0, 1), 3);
@@ -545,7 +474,7 @@ public final class Promises {
     }
 
     private static void treesAndOil() {
-        promise = 25;
+        promise(25);
         MostCocks x = new MostCocks();
         law(x, "turn off if lee = 0");
         due("no valley", x.felled(0, 0, 1, 0), -1);
@@ -565,7 +494,7 @@ public final class Promises {
         due("-1 hours", x.felled(0, 0, -1, 0), -1);
         due("way 4", x.felled(0, 0, 1, 4), -1);
         due("way -1", x.felled(0, 0, 1, -1), -1);
-        promise = 26;
+        promise(26);
         x = new MostCocks();
         law(x, "turn off if rust = 0");
         due("no valley", x.oiled(0, 0, 1, 0, 0), -1);
@@ -585,7 +514,7 @@ public final class Promises {
         due("way 4", x.oiled(0, 0, 1, 4, 0), -1);
         due("what 2", x.oiled(0, 0, 1, 0, 2), -1);
         due("what -1", x.oiled(0, 0, 1, 0, -1), -1);
-        promise = 27;
+        promise(27);
         x = five();
         due("enough coins", x.bestPoint(0, 0, 8, 0), 6);
         due("enough coins", x.bestPoint(0, 0, 8, 1), 12);
@@ -611,7 +540,7 @@ public final class Promises {
     }
 
     private static void draws() {
-        promise = 28;
+        promise(28);
         MostCocks x = five();
         due("seed", x.seed(1), 0);
         due("seed -1", x.seed(-1), -1);
@@ -620,7 +549,7 @@ public final class Promises {
         due("seed", x.seed(1), 2147483647);
         due("seed", x.seed(0), 1);
         due("seed", x.seed(1), 0);
-        promise = 29;
+        promise(29);
         // the DRAWS from 1 on: 16838, 5758, 10113, 17515, 31051; of 5 COCKS the 3, 3, 3, 0, 1
         int[] said = {4, 4, 4, 2, 2};
         int[] drawn = {1103527590, 377401575, 662824084, 1147902781, 2035015474};
@@ -632,7 +561,7 @@ public final class Promises {
         empty.seed(5);
         due("no valley", empty.lot(), -1);
         due("x stays", empty.count(4), 5);
-        promise = 30;
+        promise(30);
         x = five();
         // WINDS from x = 0 on: 0 4 4 5 2 7 5 5
         due("a point", x.years(1, 8, 1, 0, 5, 0), 3);
@@ -664,7 +593,7 @@ public final class Promises {
     }
 
     private static void countsAndImages() {
-        promise = 31;
+        promise(31);
         MostCocks x = five();
         x.fell(2, true);
         x.seed(9);
@@ -673,12 +602,12 @@ public final class Promises {
         for (int what = 0; what < 7; what++) due("count " + what, x.count(what), counts[what]);
         due("count 7", x.count(7), -1);
         due("count -1", x.count(-1), -1);
-        promise = 32;
+        promise(32);
         due("image -1", x.image(-1), -1);
         due("image 4", x.image(4), -1);
         due("image 3", x.image(3), 5);
         due("image 0", new MostCocks().image(0), 0);
-        promise = 33;
+        promise(33);
         due("back to none", x.back(0), -1);
         due("back -1", x.back(-1), -1);
         due("back 4", x.back(4), -1);
@@ -719,7 +648,7 @@ public final class Promises {
 
     /** Twelve COCKS and twelve TREES, as many as there may be, and laws as deep as they may be. */
     private static void fullHouse() {
-        promise = 0;
+        promise(0);
         MostCocks x = new MostCocks();
         due("valley", valley(x, "cock0 5 9 1 3 4;".repeat(12) + "tree0 4;".repeat(11) + "tree0 4"), 12);
         due("law", law(x, "turn 1 if " + "[1=2 or ".repeat(10) + "1+2*3=7" + "]".repeat(10)), 0);
@@ -770,7 +699,6 @@ public final class Promises {
         draws();
         countsAndImages();
         fullHouse();
-        System.out.println(wrong == 0 ? "Promises: all answers are as due" : "Promises: " + wrong + " answers are not as due");
-        if (wrong != 0) System.exit(1);
+        end("Promises");
     }
 }
