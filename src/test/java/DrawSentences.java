@@ -98,6 +98,9 @@ final class DrawSentences extends Bench {
         // 7 6 5 5 4 5 5 5
         due("from where it is", one.years(0, 8, 1, 0, 7, 0), 1);
         due("from where it is", one.years(0, 8, 1, 0, 5, 0), 5);
+        // the oldest has RUST and goes by one POINT as before, the other by two
+        x = told("cock 0 0 0 0 0 1;cock 0 0 1 9 0 0", "turn 1 if rust=1;turn 2");
+        for (int point = 0; point < 8; point++) due("each by its own words, " + point, x.years(0, 8, 1, 0, point, 0), days[point]);
         // struck out: 5 goes to 4, 2 to 3, then 4 to 3
         x = saying(row(0, 0, 0, 0, 2, 3, 3, 4, 4, 5), 0, 0, 0, 0, 0, 0, 0, 0, 0, 50);
         law(x, "turn 0");

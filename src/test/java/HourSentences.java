@@ -82,6 +82,7 @@ final class HourSentences extends Bench {
         x.fell(0, false);
         due("it stands again", x.lee(0, 0), 2);
         due("all twelve", told("cock 5 5 0 0 0 0" + ";tree 5 4".repeat(12)).lee(0, 0), 12);
+        due("no TREE", told("cock 0 1 0 0 0 0").lee(0, 0), 0);
         sentence(9, "NONE without these.");
         for (int cock : row(5, 12, Integer.MAX_VALUE, -1, Integer.MIN_VALUE)) due("COCK " + cock, x.lee(cock, 0), NONE);
         for (int wind : row(8, Integer.MAX_VALUE, -1, Integer.MIN_VALUE)) due("WIND " + wind, x.lee(0, wind), NONE);
@@ -289,6 +290,9 @@ final class HourSentences extends Bench {
         due("as at first is something else now", x.morning(), 1);
         for (int cock = 0; cock < 5; cock++) x.bend(cock, 7);
         due("all", x.morning(), 5);
+        x = told("cock0 0 0 0 0 0;".repeat(11) + "cock0 0 0 0 0 0", "turn 1");
+        x.blow(0, 4, 1);
+        due("all twelve", x.morning(), 12);
         sentence(15, "(0 without a VALLEY).");
         due("no VALLEY", new MostCocks().morning(), 0);
         x = new MostCocks();

@@ -89,6 +89,12 @@ final class TextSentences extends Bench {
         due("valley", x.valley(), 1);
         due("POINT", x.cock(0, 5), 6);
         due("tree", x.tree(0, 1), 6);
+        x.feed(0x636f636b, 0x20312032, 0x20332034, 0x20312036, 0x37373737);
+        x.end(16);
+        due("a digit that was cut off is no digit of it", x.valley(), 1);
+        x.feed(0x7475726e, 0x206f6666, 0x6f666620, 0, 0);
+        x.end(8);
+        due("a letter that was cut off is no letter of it", x.law(), 0);
         x.feed(0, 0, 0, 0, 0);
         due("none", x.end(0), 0);
         due("bytes", x.count(5), 0);
@@ -122,6 +128,15 @@ final class TextSentences extends Bench {
         due("the TREE ahead", x.tree(0, 0), NONE);
         due("one with TREES", valley(x, FIVE), 5);
         due("which stand", x.count(3), 0);
+        valley(x, "cock 5 5 0 0 0 0;worth 0 0 9;worth 3 7 9;tree 5 3;tree 5 4");
+        valley(x, "cock 5 5 0 0 0 0;tree 0 0");
+        due("no lee of the TREES ahead", x.lee(0, 0), 0);
+        due("no worth of the first", x.worth(0, 0), 0);
+        due("no worth of the last", x.worth(3, 7), 0);
+        valley(x, "cock 0 0 0 0 0 0;worth 0 0 9;tree 0 0;");
+        valley(x, "cock 0 1 0 0 0 0");
+        due("no lee of a text with a FAULT", x.lee(0, 0), 0);
+        due("no worth of a text with a FAULT", x.worth(0, 0), 0);
 
         sentence(4, "(MORNING: what all say; x stays):");
         x = five();
@@ -202,7 +217,7 @@ final class TextSentences extends Bench {
         due("the last byte", x.cock(0, 5), 6);
         valleyFault(blank(400) + "^", 0);
 
-        // 1 COCK, 12 TREES and 26 worths are 397 bytes: a 40th CLAUSE has no room, a 41st even less
+        // 1 COCK, 12 TREES and 26 worths are 397 bytes: a 40th CLAUSE can begin, but has no room, a 41st not even begin
         term("CLAUSE { ; CLAUSE }, 40 at most:");
         StringBuilder text = new StringBuilder("cock0 0 0 0 0 0" + ";tree0 0".repeat(12));
         for (int i = 0; i < 26; i++) text.append(";worth").append(i / 8).append(' ').append(i % 8).append(' ').append(i % 9 + 1);
@@ -214,6 +229,9 @@ final class TextSentences extends Bench {
         valleyFault("cock 0 0 0 0 0 0;^;tree 0 0", 0);
         valleyFault("cock 0 0 0 0 0 0 ^tree 0 0", 0);
         valleyFault("cock 0 0 0 0 0 0^,tree 0 0", 0);
+        valleyFault("cock 0 0 0 0 0 0^[tree 0 0", 0);
+        valleyFault("tree0 0;".repeat(12) + "worth0 0 0;".repeat(27) + "worth^", 0);
+        valleyFault("^" + ";".repeat(400), 0);
 
         term("COCKS 0 to 11, TREES 0 to 11, in the order told");
         text = new StringBuilder();
@@ -314,6 +332,8 @@ final class TextSentences extends Bench {
         lawFault("^", 0);
         lawFault("turn 1;^", 0);
         lawFault("turn 1;^;turn 1", 0);
+        lawFault("turn 1^[turn 1", 0);
+        lawFault("^" + ";".repeat(400), 0);
         lawFault("turn 1 ^turn 1", 0);
         lawFault("turn^", 0);
         lawFault("turn ^if 1=1", 0);
@@ -357,6 +377,8 @@ final class TextSentences extends Bench {
         holds("not [1=2 and 1=1]", true);
         holds("[[1=2 or 1=1] and [1=1]] and 1=1", true);
         lawFault("turn 1 if [^]", 0);
+        lawFault("turn 1 if ^;1=1]", 0);
+        lawFault("turn 1 if [1=1^;", 0);
         lawFault("turn 1 if [1=1^", 0);
         lawFault("turn 1 if 1=1^]", 0);
         lawFault("turn 1 if [1^]=1", 0);
@@ -364,7 +386,13 @@ final class TextSentences extends Bench {
         term("SUM SIGN SUM, SIGN one of < <= = >= >.");
         String[] signs = {"<", "<=", "=", ">=", ">"};
         boolean[][] due = {{true, false, false}, {true, true, false}, {false, true, false}, {false, true, true}, {false, false, true}};
-        for (int i = 0; i < 15; i++) holds(i % 3 + 1 + signs[i / 3] + 2, due[i / 3][i % 3]);
+        for (int i = 0; i < 15; i++) {
+            String fact = i % 3 + 1 + signs[i / 3] + 2;
+            holds(fact, due[i / 3][i % 3]);
+            holds("not " + fact, !due[i / 3][i % 3]);
+            holds("1=1 and " + fact, due[i / 3][i % 3]);
+            holds("1=2 or " + fact, due[i / 3][i % 3]);
+        }
         holds("1+1 = 3-1", true);
         holds("0-1 < 0", true);
         lawFault("turn 1 if 1^", 0);
@@ -432,7 +460,12 @@ final class TextSentences extends Bench {
         lawFault("turn ^rustrust", 0);
         lawFault("turn ^rus", 0);
         lawFault("turn ^ownerx", 0);
-        lawFault("turn ^az+1", 0);
+        lawFault("turn ^offz", 0);
+        lawFault("turn ^offa", 0);
+        lawFault("turn ^zoff", 0);
+        lawFault("turn off^{", 0);
+        lawFault("turn off^`", 0);
+        lawFault("turn 1^:", 0);
         lawFault("turn 1 ^ifrust=1", 0);
         lawFault("turn rust^1", 0);
         lawFault("turn rust^Z", 0);

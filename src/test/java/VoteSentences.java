@@ -85,6 +85,10 @@ final class VoteSentences extends Bench {
         votes(3, 0, row(0, 0, 4, 4));
         votes(3, 1, row(2, 1));
         votes(3, 0, row(0, 7));
+        votes(3, 1, row(1, 7));
+        votes(3, 0, row(7, 0, 5));
+        // seven are struck out: 6 to 7, 5 to 4, 2 to 3, 1 to 0, 4 to 3, 0 to 7, and then 7, five and five
+        votes(3, 3, row(0, 1, 2, 3, 3, 4, 5, 6, 7, 7));
         // 3 goes to 2, then 1 to the right
         votes(3, 2, row(0, 1, 2, 3));
         term("whoever says it says the least OFF of those that are left and were said ahead of that");
@@ -214,6 +218,14 @@ final class VoteSentences extends Bench {
         due("set", x.answer(0, 2, 0, 4, 0, 1), 1);
         due("back, from where it is", x.answer(0, 2, 0, 4, 1, 0), 4);
         due("back, from where it is", x.answer(0, 2, 0, 4, 1, 1), 4);
+        // COCKS 0 and 2 say 6 then
+        due("when both were bent", x.answer(0, 6, 0, 2, 0, 0), 4);
+        due("when both were bent", x.answer(0, 6, 0, 2, 0, 1), 1);
+        MostCocks twelve = told("cock0 5 9 1 3 5;".repeat(11) + "cock0 5 9 1 3 5");
+        due("the first back", twelve.answer(0, 6, 0, 5, 0, 1), 1);
+        due("the sixth back, when the last seven were bent", twelve.answer(3, 6, 31, 5, 0, 1), 32);
+        due("the last back", twelve.answer(3, 6, 31, 5, 2047, 1), 2048);
+        due("the last back", twelve.answer(3, 6, 31, 5, 2047, 0), 10);
         due("for the same POINT nothing is to be done", x.answer(0, 2, 0, 2, 0, 0), 0);
         due("for the same POINT nothing is to be done", x.answer(0, 2, 0, 2, 31, 1), 0);
         due("where it is as it is, as CHEAPEST", x.answer(0, 4, 0, 2, 0, 0), 4);

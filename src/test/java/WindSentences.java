@@ -107,6 +107,9 @@ final class WindSentences extends Bench {
         isTrueWind(x, 0, 0, 1, 13);
         x.morning();
         isTrueWind(x, 0, 0, 4, 0);
+        x = told("cock 5 5 0 0 0 2;tree 5 4", "turn off if lee=0");
+        x.bend(0, 0);
+        isTrueWind(x, 1, 0, 0, 1);
 
         sentence(23, "TRUE WIND what 0: it, 1: how many it explains, 2: COCKS that it does not, as bits;");
         isTrueWind(told("cock 0 0 0 0 0 3;".repeat(11) + "cock 0 0 0 0 0 3", "turn off"), 24, 3, 12, 0);
@@ -221,6 +224,11 @@ final class WindSentences extends Bench {
         x = told("cock 0 0 1 9 0 1;cock 0 0 1 0 0 4;cock 0 0 1 0 0 4;cock 0 0 1 0 0 4", "turn off if rust=0 and cock>0;turn 1 if rust=1 and cock=0");
         isOil(x, 0, 1, 2);
         isOil(x, 2, 1, 2);
+        // the cheaper one stands in the lee
+        x = told("cock 5 5 1 0 0 4;cock 9 9 2 0 0 4;tree 5 4", "turn off if rust=0 and lee=0");
+        isOil(x, 2, 2, 2);
+        x.fell(0, true);
+        isOil(x, 2, 1, 1);
     }
 
     private static void oiledBounds() {
