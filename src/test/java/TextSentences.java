@@ -193,6 +193,9 @@ final class TextSentences extends Bench {
         due("a FAULT again", law(x, "turn 2;turn"), -2 - (1 + 8 * 11));
         due("the law ahead stays", x.after(0, 4, 1, 0, 0), 1);
         due("no second law", x.after(1, 4, 1, 0, 0), NONE);
+        due("one more", law(x, "turn 1 if 1=2;turn 3;turn 3;x"), -2 - (1 + 8 * 28));
+        due("a shorter one in its place", law(x, "turn 1 if 1=2"), 1);
+        due("nothing of the one ahead stays", x.after(1, 4, 1, 0, 0), 0);
 
         sentence(5, "NONE, and nothing happens: there are 6.");
         x = told("cock 0 0 0 0 0 0", "turn 0", "turn 1", "turn 2", "turn 3", "turn 4", "turn 3");
