@@ -31,7 +31,7 @@ public final class MostCocks {
     private final Weather weather = new Weather();
     private final Ballot ballot = new Ballot();
     private final Search search = new Search(ballot);
-    private final Almanac almanac = new Almanac(weather, ballot);
+    private final Almanac almanac = new Almanac(now, weather, ballot);
     /** What all say in an hour that is only asked for. */
     private final int[] then = new int[COCKS];
 
@@ -134,7 +134,7 @@ public final class MostCocks {
         }
         weather.turnAll(laws[law], now, wind, n, now.felledTrees, then);
         int turned = 0;
-        for (int cock = 0; cock < now.cocks; cock++) {
+        for (int cock = 0; cock < now.cocks && cock < COCKS; cock++) {
             if (then[cock] != now.said[cock]) {
                 turned++;
             }
@@ -175,7 +175,7 @@ public final class MostCocks {
 
     public int morning() {
         int others = 0;
-        for (int cock = 0; cock < now.cocks; cock++) {
+        for (int cock = 0; cock < now.cocks && cock < COCKS; cock++) {
             if (now.said[cock] != now.kept[cock]) {
                 others++;
             }
@@ -196,7 +196,7 @@ public final class MostCocks {
             return NONE;
         }
         int sayers = 0;
-        for (int cock = 0; cock < now.cocks; cock++) {
+        for (int cock = 0; cock < now.cocks && cock < COCKS; cock++) {
             if (now.said[cock] == point) {
                 sayers++;
             }
@@ -303,7 +303,7 @@ public final class MostCocks {
         if (voteAfter(law, wind, n, way, now.felledTrees) == wind) {
             return ALREADY;
         }
-        for (int tree = 0; tree < now.trees; tree++) {
+        for (int tree = 0; tree < now.trees && tree < TREES; tree++) {
             if (voteAfter(law, wind, n, way, now.felledTrees | 1 << tree) == wind) {
                 return tree;
             }
@@ -316,7 +316,7 @@ public final class MostCocks {
             return NONE;
         }
         weather.turnAll(laws[law], now, wind, n, now.felledTrees, search.from);
-        for (int cock = 0; cock < now.cocks; cock++) {
+        for (int cock = 0; cock < now.cocks && cock < COCKS; cock++) {
             weather.stand(now, cock, wind, now.felledTrees);
             weather.words[Weather.RUST] = 0;
             search.to[cock] = weather.turned(laws[law], now.said[cock], n);
@@ -361,7 +361,7 @@ public final class MostCocks {
         }
         now.drawn = nextDrawn(now.drawn);
         int cock = now.drawn / 65536 % now.cocks;
-        return now.said[cock];
+        return now.hasCock(cock) ? now.said[cock] : NONE;
     }
 
     public int years(int law, int m, int n, int way, int told, int what) {
@@ -371,7 +371,7 @@ public final class MostCocks {
         if (!isBelow(told, what == 2 ? OWNERS : POINTS)) {
             return NONE;
         }
-        almanac.open(laws[law], now, n);
+        almanac.open(laws[law], n);
         int sum = 0;
         for (int day = 0; day < m; day++) {
             int point = almanac.voteOfNextDay(way);
@@ -444,7 +444,7 @@ public final class MostCocks {
 
     private int unexplainedBy(int law, int hours, int wind) {
         int unexplained = 0;
-        for (int cock = 0; cock < now.cocks; cock++) {
+        for (int cock = 0; cock < now.cocks && cock < COCKS; cock++) {
             if (!isExplained(law, hours, cock, wind)) {
                 unexplained |= 1 << cock;
             }
@@ -891,6 +891,11 @@ public final class MostCocks {
             length = 0;
         }
 
+        void become(Law other) {
+            length = other.length;
+            System.arraycopy(other.steps, 0, steps, 0, BYTES);
+        }
+
         void add(int step) {
             if (length >= 0 && length < BYTES) {
                 steps[length] = step;
@@ -962,7 +967,7 @@ public final class MostCocks {
         static final int LONGEST = 60;
 
         private final Tokens tokens;
-        private Law into = null;
+        private final Law into = new Law();
         /** VALUES and FACTS made of a SIGN so far. */
         private int parts = 0;
 
@@ -974,7 +979,6 @@ public final class MostCocks {
             if (law == null) {
                 return tokens.fails(Tokens.NOT_THERE);
             }
-            into = law;
             into.clear();
             parts = 0;
             for (int clause = 0; clause <= CLAUSES; clause++) {
@@ -994,6 +998,7 @@ public final class MostCocks {
                 }
                 into.add(tested ? -Tokens.IF : -Tokens.TURN);
                 if (tokens.kind() == Tokens.LAST) {
+                    law.become(into);
                     return true;
                 }
                 if (!takes(Tokens.SEMICOLON)) {
@@ -1198,7 +1203,7 @@ public final class MostCocks {
             }
             for (int cock = 0; cock < cocks; cock++) {
                 ages[cock] = valley.age[cock];
-                points[cock] = row[cock] & 7;
+                points[cock] = row[cock];
                 tally(cock, 1);
             }
         }
@@ -1206,7 +1211,7 @@ public final class MostCocks {
         void put(int cock, int point) {
             if (isBelow(cock, COCKS) && cock < cocks) {
                 tally(cock, -1);
-                points[cock] = point & 7;
+                points[cock] = point;
                 tally(cock, 1);
             }
         }
@@ -1221,7 +1226,7 @@ public final class MostCocks {
         }
 
         private void tally(int cock, int times) {
-            int point = points[cock];
+            int point = points[cock] & 7;
             heads[point] += times;
             weights[point] += times * (ages[cock] + 1);
         }
@@ -1239,15 +1244,16 @@ public final class MostCocks {
         }
 
         private int pointOfOldest(int[] tallies, int most) {
-            int point = 0;
+            int best = 0;
             int oldest = -1;
-            for (int cock = 0; cock < cocks; cock++) {
-                if (tallies[points[cock]] == most && ages[cock] > oldest) {
+            for (int cock = 0; cock < cocks && cock < COCKS; cock++) {
+                int point = points[cock] & 7;
+                if (tallies[point] == most && ages[cock] > oldest) {
                     oldest = ages[cock];
-                    point = points[cock];
+                    best = point;
                 }
             }
-            return point;
+            return best;
         }
 
         private int middle() {
@@ -1297,6 +1303,8 @@ public final class MostCocks {
 
     /** Goes through sets of COCKS, each of which says one POINT without the set and another in it. */
     private static final class Search {
+        static final int SETS = 1 << COCKS;
+
         private final Ballot ballot;
         final int[] from = new int[COCKS];
         final int[] to = new int[COCKS];
@@ -1351,7 +1359,7 @@ public final class MostCocks {
             set = 0;
             int best = 0;
             int sum = 0;
-            for (int chosen = 0; chosen < 1 << frees; chosen++) {
+            for (int chosen = 0; chosen < 1 << frees && chosen < SETS; chosen++) {
                 sum += flip(chosen);
                 boolean better = !found || sum < cost
                         || sum == cost && Integer.bitCount(chosen) < Integer.bitCount(best);
@@ -1373,13 +1381,12 @@ public final class MostCocks {
                 from[each] = one;
                 to[each] = other;
                 if (each != cock) {
-                    free[frees] = each;
-                    frees++;
+                    addFree(each);
                 }
             }
             ballot.open(valley, from);
             int unlike = 0;
-            for (int chosen = 0; chosen < 1 << frees; chosen++) {
+            for (int chosen = 0; chosen < 1 << frees && chosen < SETS; chosen++) {
                 flip(chosen);
                 ballot.put(cock, one);
                 int first = ballot.winner(way);
@@ -1396,9 +1403,15 @@ public final class MostCocks {
             frees = 0;
             for (int cock = 0; cock < valley.cocks && cock < COCKS; cock++) {
                 if ((allowed >> cock & 1) != 0 && from[cock] != to[cock]) {
-                    free[frees] = cock;
-                    frees++;
+                    addFree(cock);
                 }
+            }
+        }
+
+        private void addFree(int cock) {
+            if (isBelow(frees, COCKS)) {
+                free[frees] = cock;
+                frees++;
             }
         }
 
@@ -1409,8 +1422,10 @@ public final class MostCocks {
             for (int i = 0; i < frees && i < COCKS && changed >> i != 0; i++) {
                 int cock = free[i];
                 boolean taken = (chosen >> i & 1) != 0;
-                ballot.put(cock, taken ? to[cock] : from[cock]);
-                dearer += taken ? price[cock] : -price[cock];
+                if (isBelow(cock, COCKS)) {
+                    ballot.put(cock, taken ? to[cock] : from[cock]);
+                    dearer += taken ? price[cock] : -price[cock];
+                }
             }
             return dearer;
         }
@@ -1428,37 +1443,34 @@ public final class MostCocks {
 
     /** Days one behind another, each with a WIND that is drawn; the VALLEY itself stays as it is. */
     private static final class Almanac {
+        private final Valley place;
         private final Weather weather;
         private final Ballot ballot;
         private final int[] points = new int[COCKS];
         /** What a day makes of a COCK, a POINT and a WIND, once it has been asked; else below 0. */
         private final int[] evenings = new int[COCKS * POINTS * POINTS];
         private Law rule = null;
-        private Valley place = null;
         private int hours = 0;
         private int drawn = 0;
         int wind = 0;
 
-        Almanac(Weather weather, Ballot ballot) {
+        Almanac(Valley place, Weather weather, Ballot ballot) {
+            this.place = place;
             this.weather = weather;
             this.ballot = ballot;
         }
 
-        void open(Law law, Valley valley, int hoursOfDay) {
+        void open(Law law, int hoursOfDay) {
             rule = law;
-            place = valley;
             hours = hoursOfDay;
-            drawn = valley.drawn;
-            System.arraycopy(valley.said, 0, points, 0, COCKS);
+            drawn = place.drawn;
+            System.arraycopy(place.said, 0, points, 0, COCKS);
             for (int i = 0; i < COCKS * POINTS * POINTS; i++) {
                 evenings[i] = -1;
             }
         }
 
         int voteOfNextDay(int way) {
-            if (place == null) {
-                return 0;
-            }
             drawn = nextDrawn(drawn);
             wind = drawn / 65536 % POINTS;
             for (int cock = 0; cock < place.cocks && cock < COCKS; cock++) {

@@ -25,12 +25,13 @@ import javax.tools.SimpleJavaFileObject;
 import javax.tools.ToolProvider;
 
 /**
- * Looks whether the tests of sentences bite: changes the program by one sign, number or line at a time, and names the
- * changes that no test of a sentence finds. Not a part of .ci/run, as some changes change nothing that can be asked.
+ * Looks whether the tests of sentences and Traces bite: changes the program by one sign, number or line at a time, and
+ * names the changes that none of them finds. Not a part of .ci/run, as some changes change nothing that can be asked.
  * Use: java -cp CLASSES Mutants SOURCE CLASSES
  */
 public final class Mutants {
     private static final int SECONDS = 20;
+    private static final String[] TESTS = {"TextSentences", "HourSentences", "VoteSentences", "WindSentences", "DrawSentences", "Traces"};
     private static final String[][] CHANGES = {
         {" < ", " <= "}, {" <= ", " < "}, {" > ", " >= "}, {" >= ", " > "}, {" == ", " != "}, {" != ", " == "},
         {" && ", " || "}, {" \\|\\| ", " && "}, {" \\+ ", " - "}, {" - ", " + "}, {" \\* ", " + "}, {" / ", " * "},
@@ -141,8 +142,8 @@ public final class Mutants {
 
     private static boolean passes(ClassLoader loader) {
         try {
-            for (String group : new String[] {"Text", "Hour", "Vote", "Wind", "Draw"}) {
-                var all = loader.loadClass(group + "Sentences").getDeclaredMethod("all");
+            for (String tests : TESTS) {
+                var all = loader.loadClass(tests).getDeclaredMethod("all");
                 all.setAccessible(true);
                 all.invoke(null);
                 var wrong = loader.loadClass("Bench").getDeclaredField("wrong");

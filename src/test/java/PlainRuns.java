@@ -164,7 +164,7 @@ public final class PlainRuns {
             case 7: due("lot", x.lot(), plain.lot()); break;
             case 8: due("image " + b / 2, x.image(b / 2), plain.image(b / 2)); break;
             case 9: due("back " + b / 2, x.back(b / 2), plain.back(b / 2)); break;
-            case 10: if (below(4) == 0) tellValley(cocks); break;
+            case 10: if (below(2) == 0) tellValley(1 + below(cocks)); break;
             default: if (below(3) == 0) tellLaw(); break;
         }
     }
