@@ -74,15 +74,20 @@ abstract class Bench {
 
     // ---- telling
 
+    /** A text as rows of five numbers, each of which is fed by one call; what is too much is 0. */
+    static int[][] fives(String text) {
+        int[][] rows = new int[(text.length() + 19) / 20][5];
+        for (int i = 0; i < rows.length * 20; i++) {
+            int[] row = rows[i / 20];
+            int place = i % 20 / 4;
+            row[place] = row[place] << 8 | (i < text.length() ? text.charAt(i) : 0);
+        }
+        return rows;
+    }
+
     /** Puts a text behind the TAPE, which is empty. */
     static void tell(MostCocks x, String text) {
-        for (int fed = 0; fed < text.length(); fed += 20) {
-            int[] n = new int[5];
-            for (int i = 0; i < 20; i++) {
-                n[i / 4] = n[i / 4] << 8 | (fed + i < text.length() ? text.charAt(fed + i) : 0);
-            }
-            x.feed(n[0], n[1], n[2], n[3], n[4]);
-        }
+        for (int[] n : fives(text)) x.feed(n[0], n[1], n[2], n[3], n[4]);
         due("end of '" + text + "'", x.end(text.length()), text.length());
     }
 

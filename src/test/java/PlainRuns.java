@@ -32,15 +32,8 @@ public final class PlainRuns {
     private static void feed(String text) {
         run.append("text '").append(text).append("'\n");
         int start = plain.count(5);
-        int fed = 0;
-        while (fed < text.length() || fed == 0) {
-            int[] n = new int[5];
-            for (int i = 0; i < 20; i++) {
-                int c = fed + i < text.length() ? text.charAt(fed + i) : 0;
-                n[i / 4] = n[i / 4] << 8 | c;
-            }
+        for (int[] n : Bench.fives(text)) {
             due("feed", x.feed(n[0], n[1], n[2], n[3], n[4]), plain.feed(n[0], n[1], n[2], n[3], n[4]));
-            fed += 20;
         }
         int stop = start + text.length();
         due("end " + stop, x.end(stop), plain.end(stop));
